@@ -244,7 +244,7 @@ public final class PepperboxTable {
     }
 
     public int best() {
-        return hasBestPlay() ? bestWithTrump(cards.trump) : NONE;
+        return bestIn(cards.trump);
     }
 
     public int bestWith(int card) throws IndexOutOfBoundsException, IllegalStateException {
@@ -257,7 +257,7 @@ public final class PepperboxTable {
         if (!hasBestPlay()) {
             return NONE;
         }
-        int most = bestWithTrump(cards.trump);
+        int most = bestIn(cards.trump);
         int rest = cards.rightCards();
         // The best play's count is reached by at least one right CARD, whichever SIDE plays it.
         for (int k = 0; k < HAND_AT_MOST && rest != 0; k++) {
@@ -274,7 +274,12 @@ public final class PepperboxTable {
         if (trump < 0 || trump >= TRUMPS) {
             throw new IllegalArgumentException("no such TRUMP");
         }
-        return hasBestPlay() ? bestWithTrump(trump) : NONE;
+        if (!hasBestPlay()) {
+            return NONE;
+        }
+        trial.copyFrom(cards);
+        trial.trump = trump;
+        return mostOfSide0(trial);
     }
 
     public int wouldScore(int first) throws IllegalArgumentException, IllegalStateException {
@@ -374,7 +379,7 @@ public final class PepperboxTable {
     }
 
     private void checkPlayable(int card) {
-        if (state != PLAYING || !contains(cards.heldBy(cards.turn()), card)) {
+        if (state != PLAYING || !contains(cards.heldBy(cards.turn), card)) {
             throw new IllegalStateException("not in the STATE 2, or the CARD is not in that HAND");
         }
     }
@@ -389,7 +394,7 @@ public final class PepperboxTable {
         if (state == BIDDING) {
             return auction.turn();
         }
-        return state == PLAYING ? cards.turn() : NONE;
+        return state == PLAYING ? cards.turn : NONE;
     }
 
     private int revokersOf(int side) {
@@ -405,7 +410,7 @@ public final class PepperboxTable {
     private void finishDeal() {
         for (int player = 0; player < PLAYERS; player++) {
             if (cards.hasRevoked(player)) {
-                payForRevoke(sideOf(player));
+                payForRevoke(player);
             }
         }
         int declaring = sideOf(auction.declarer());
@@ -419,7 +424,8 @@ public final class PepperboxTable {
         state = OVER;
     }
 
-    private void payForRevoke(int payer) {
+    private void payForRevoke(int player) {
+        int payer = sideOf(player);
         if (taken[payer] > 0) {
             taken[payer]--;
             taken[1 - payer]++;
@@ -430,12 +436,6 @@ public final class PepperboxTable {
 
     private boolean hasBestPlay() {
         return state == PLAYING && cards.areAtMost(OPEN_HAND_AT_MOST);
-    }
-
-    private int bestWithTrump(int trump) {
-        trial.copyFrom(cards);
-        trial.trump = trump;
-        return mostOfSide0(trial);
     }
 
     private int bestBehind(int card) {
@@ -465,23 +465,19 @@ public final class PepperboxTable {
             return false;
         }
         // One CARD that gets them is enough for the SIDE 0, one that spoils them for the other.
-        boolean wish = sideOf(table.turn()) == 0;
+        boolean wish = sideOf(table.turn) == 0;
         int rest = table.rightCards();
         for (int k = 0; k < OPEN_HAND_AT_MOST && rest != 0; k++) {
             int card = smallest(rest);
-            if (doesSide0GetBehind(table, card, need, depth) == wish) {
+            rest = without(rest, card);
+            int got = countForSide0(table.put(card));
+            boolean gets = doesSide0Get(table, need - got, depth - 1);
+            table.takeBack();
+            if (gets == wish) {
                 return wish;
             }
-            rest = without(rest, card);
         }
         return !wish;
-    }
-
-    private static boolean doesSide0GetBehind(Cards table, int card, int need, int depth) {
-        int got = countForSide0(table.put(card));
-        boolean gets = doesSide0Get(table, need - got, depth - 1);
-        table.takeBack();
-        return gets;
     }
 
     private static int countForSide0(int taker) {
@@ -651,6 +647,7 @@ public final class PepperboxTable {
         private int played = 0;
         private int revokes = 0;
         private int trump = SUITS;
+        private int turn = 0;
 
         void clear() {
             for (int player = 0; player < PLAYERS; player++) {
@@ -669,10 +666,12 @@ public final class PepperboxTable {
             played = other.played;
             revokes = other.revokes;
             trump = other.trump;
+            turn = other.turn;
         }
 
         void start(int leader, int newTrump) {
             leaders[0] = leader;
+            turn = leader;
             trump = newTrump;
         }
 
@@ -738,10 +737,6 @@ public final class PepperboxTable {
             return (leaderOf(place / PLAYERS) + place % PLAYERS) & 3;
         }
 
-        int turn() {
-            return playerAt(played);
-        }
-
         int cardIn(int trick, int player) {
             int placeInTrick = (player - leaderOf(trick)) & 3;
             return playedAt(PLAYERS * trick + placeInTrick);
@@ -752,10 +747,10 @@ public final class PepperboxTable {
             int taker = NONE;
             int top = NONE;
             for (int k = 0; k < many; k++) {
-                int place = PLAYERS * trick + k;
-                if (taker == NONE || beats(playedAt(place), top)) {
-                    taker = playerAt(place);
-                    top = playedAt(place);
+                int card = playedAt(PLAYERS * trick + k);
+                if (taker == NONE || beats(card, top)) {
+                    taker = (leaderOf(trick) + k) & 3;
+                    top = card;
                 }
             }
             return taker;
@@ -767,7 +762,7 @@ public final class PepperboxTable {
         }
 
         int rightCards() {
-            int held = heldBy(turn());
+            int held = heldBy(turn);
             if (lying() == 0) {
                 return held;
             }
@@ -782,25 +777,21 @@ public final class PepperboxTable {
                 return NONE;
             }
             int trick = ended();
-            int player = turn();
             if (!contains(rightCards(), card)) {
                 revokes = with(revokes, played);
             }
-            hands[player] = without(heldBy(player), card);
+            hands[turn & 3] = without(heldBy(turn), card);
             playedCards[played] = card;
             played++;
             if (lying() != 0) {
+                turn = nextOf(turn);
                 return NONE;
             }
-            return endTrick(trick);
-        }
-
-        private int endTrick(int trick) {
-            int taker = takerOf(trick, PLAYERS);
+            turn = takerOf(trick, PLAYERS);
             if (trick >= 0 && trick + 1 < leaders.length) {
-                leaders[trick + 1] = taker;
+                leaders[trick + 1] = turn;
             }
-            return taker;
+            return turn;
         }
 
         /** Takes the last CARD back, of an ended TRICK too: the search for the best play needs that. */
@@ -810,7 +801,8 @@ public final class PepperboxTable {
             }
             played--;
             int card = playedAt(played);
-            add(turn(), card);
+            turn = playerAt(played);
+            add(turn, card);
             revokes = without(revokes, played);
             return card;
         }

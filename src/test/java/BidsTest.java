@@ -220,5 +220,12 @@ public final class BidsTest {
         PepperboxTable z = Tables.bidding(0, 2);
         Tables.bids(z, 3, 0, 9, 0, 0, 0);
         Due.is("11 another TRUMP of the partner", 2, z.contract(2));
+        // 41 and 42 are no LEVELS with the TRUMPS 0 and 1.
+        PepperboxTable doubled = Tables.bidding(0, 2);
+        Tables.bids(doubled, 2, 41, 0, 6, 0, 0, 0);
+        Due.is("11 a DOUBLE has no TRUMP", 3, doubled.contract(2));
+        PepperboxTable redoubled = Tables.bidding(0, 2);
+        Tables.bids(redoubled, 5, 41, 42, 0, 7, 0, 0, 0);
+        Due.is("11 a REDOUBLE has no TRUMP", 0, redoubled.contract(2));
     }
 }

@@ -94,6 +94,11 @@ public final class CardsTest {
         Due.is("2 a REVOKE", 1, z.side(1, 2));
         z.begin(0);
         Due.is("2 no REVOKE", 0, z.side(1, 2));
+        z.deal(0, 1, 2);
+        z.open();
+        Tables.bids(z, 5, 0, 0, 0);
+        Tables.playRightly(z, 8);
+        Due.is("2 none comes back", 0, z.side(0, 2) + z.side(1, 2));
     }
 
     private static void deal() {
@@ -163,6 +168,14 @@ public final class CardsTest {
         Due.is("4 has", true, x.has(2, 24));
         Due.is("4 has not", false, x.has(3, 24));
         Due.is("4 has", true, x.has(3, 0));
+        for (int player = 0; player < 4; player++) {
+            PepperboxTable y = new PepperboxTable();
+            y.give(player, 9);
+            for (int other = 0; other < 4; other++) {
+                int o = other;
+                Due.noState("4 the CARD of " + player + " to " + other, y, () -> y.give(o, 9));
+            }
+        }
         Due.noState("4 the HAND has 8", x, () -> x.give(2, 1));
         Due.noState("4 the CARD is in that HAND", x, () -> x.give(3, 0));
         Due.noState("4 the CARD is in another HAND", x, () -> x.give(0, 31));
@@ -204,6 +217,12 @@ public final class CardsTest {
         Due.is("5 state", 1, x.now(0));
         Due.is("5 turn", 0, x.now(2));
         Due.noState("5 in the STATE 1", x, () -> x.open());
+        for (int player = 0; player < 4; player++) {
+            PepperboxTable odd = new PepperboxTable();
+            odd.deal(0, 1, 2);
+            odd.give(player, 31);
+            Due.noState("5 " + player + " has one more", odd, () -> odd.open());
+        }
         PepperboxTable y = Tables.playing(0, 0, 1, 2, 1);
         Due.noState("5 in the STATE 2", y, () -> y.open());
         PepperboxTable z = Tables.over();
@@ -242,6 +261,13 @@ public final class CardsTest {
                 Due.is("7 hand(2)", what == 0 ? 0 : -1, x.hand(2, suit, what));
             }
         }
+        x.give(3, 1);
+        Due.is("7 one alone is the greatest", 1, x.hand(3, 0, 1));
+        Due.is("7 one alone is the smallest", 1, x.hand(3, 4, 2));
+        PepperboxTable zero = new PepperboxTable();
+        zero.give(0, 0);
+        Due.is("7 the CARD 0 alone", 0, zero.hand(0, 4, 1));
+        Due.is("7 the CARD 0 alone", 0, zero.hand(0, 0, 2));
         for (int bad : new int[] {-1, 4, MIN, MAX}) {
             Due.noPlace("7 player", x, () -> x.hand(bad, 0, 0));
             Due.noPlace("7 the place first", x, () -> x.hand(bad, 5, 3));

@@ -341,6 +341,10 @@ public final class TricksTest {
         Due.is(what, due, x.side(scorer, 1));
         Due.is(what + " the other", 0, x.side(1 - scorer, 1));
         Due.is(what + " tricks", 8, x.side(scorer, 0));
+        Due.is("15 the first led", (declarer + 1) % 4, x.trick(0, 0));
+        for (int trick = 0; trick < 8; trick++) {
+            Due.is("15 who got " + trick, winner, x.trick(trick, 1));
+        }
     }
 
     private static void meanScore() {

@@ -41,6 +41,30 @@ public final class WouldBeTest {
         Due.is("19 the next TRICK", 0, x.wouldGet(31));
         PepperboxTable y = Tables.playing(0, 0, 1, 8, 5);
         Due.is("19 with many CARDS", 1, y.wouldGet(1));
+        Tables.plays(x, 31, 10);
+        x.back();
+        Due.is("19 what was taken back is gone", 0, x.wouldGet(0));
+        lastOfEight();
+    }
+
+    /** The PLAYER 3 has the two best CARDS of each SUIT, and gets all. */
+    private static void lastOfEight() {
+        PepperboxTable x = new PepperboxTable();
+        for (int card = 0; card < 32; card++) {
+            x.give(card % 8 / 2, card);
+        }
+        x.open();
+        Tables.bids(x, 5, 0, 0, 0);
+        Tables.playRightly(x, 28);
+        for (int k = 0; k < 4; k++) {
+            int last = Tables.aCardInTurn(x);
+            Due.is("19 the eighth TRICK", 3, x.wouldGet(last));
+            Due.is("20 the eighth TRICK", 0, x.best());
+            Due.is("21 the eighth TRICK", 0, x.bestWith(last));
+            Due.is("22 the eighth TRICK", last, x.bestCard());
+            x.play(last);
+        }
+        Due.is("15 who got the eighth TRICK", 3, x.trick(7, 1));
     }
 
     private static void wouldGetRefuses() {
@@ -99,6 +123,12 @@ public final class WouldBeTest {
         Due.is("20 1 leads, and takes the one", 2, x.best());
         Due.is("22 all are as good", 0, x.bestCard());
         Due.is("21 the one", 2, x.bestWith(23));
+        PepperboxTable all = Tables.given(5, new int[] {7, 15, 23}, new int[] {0, 8, 16}, new int[] {1, 9, 17},
+                new int[] {2, 10, 18});
+        Due.is("20 all three", 3, all.best());
+        Due.is("22 the CARD 0", 0, all.bestCard());
+        Due.is("21 all three", 3, all.bestWith(16));
+        Due.is("23 all three", 3, all.bestIn(2));
         // If 1 leads another, 2 or 0 has to lead 22 or 20 at last.
         Due.is("21 0", 2, x.bestWith(0));
         Tables.plays(x, 23, 20, 16, 22);
