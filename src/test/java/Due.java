@@ -5,8 +5,20 @@ final class Due {
     }
 
     private static int wrong = 0;
+    private static String sentence = "";
 
     private Due() {
+    }
+
+    /** The test of one sentence of the document; what it throws unasked is a wrong answer of that one alone. */
+    static void sentence(String words, Runnable test) {
+        sentence = "\"" + words + "\": ";
+        try {
+            test.run();
+        } catch (RuntimeException e) {
+            wrong("unasked", "threw " + e);
+        }
+        sentence = "";
     }
 
     static void is(String what, long want, long got) {
@@ -37,9 +49,9 @@ final class Due {
         fails(what, x, IllegalStateException.class, call);
     }
 
-    /** The call must throw exactly that exception, and change nothing that can be asked. */
+    /** The call must throw exactly that exception, and leave the digest; three calls of the 512 that an object has. */
     private static void fails(String what, PepperboxTable x, Class<?> kind, Call call) {
-        long[] before = Snapshot.of(x);
+        long before = x.digest();
         try {
             wrong(what, "answered " + call.answer() + ", due is " + kind.getName());
         } catch (RuntimeException e) {
@@ -47,7 +59,7 @@ final class Due {
                 wrong(what, "threw " + e + ", due is " + kind.getName());
             }
         }
-        if (!java.util.Arrays.equals(before, Snapshot.of(x))) {
+        if (before != x.digest()) {
             wrong(what, "changed something though it throws");
         }
     }
@@ -55,7 +67,7 @@ final class Due {
     static void wrong(String what, String how) {
         wrong++;
         if (wrong <= 40) {
-            System.out.println(what + ": " + how);
+            System.out.println(sentence + what + ": " + how);
         }
     }
 

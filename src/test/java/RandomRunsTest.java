@@ -30,13 +30,12 @@ public final class RandomRunsTest {
 
     private void run() {
         for (int k = 0; k < CALLS; k++) {
-            boolean goesOn = random.nextInt(100) < 55;
-            if (goesOn) {
+            int kind = random.nextInt(100);
+            if (kind < 55) {
                 goOn(k);
-            } else {
+            } else if (kind < 92) {
                 ask(k);
-            }
-            if (random.nextInt(12) == 0) {
+            } else {
                 call(k, "digest", 0, 0, 0);
             }
         }

@@ -32,6 +32,7 @@ final class Snapshot {
             }
         }
         all.add(Double.doubleToLongBits(x.meanScore()));
+        addScores(x, all);
         addBest(x, all);
         long[] row = new long[all.size()];
         for (int k = 0; k < row.length; k++) {
@@ -46,6 +47,17 @@ final class Snapshot {
                 all.add(x.has(player, card) ? 1L : 0L);
             }
             all.add(x.isRight(card) ? 1L : 0L);
+        }
+    }
+
+    private static void addScores(PepperboxTable x, List<Long> all) {
+        if (x.contract(0) == -1) {
+            return;
+        }
+        // At least so many CARDS each: one is short where the PLAYER 0 has one in the TRICK that is not ended.
+        int size = x.hand(0, 4, 0) + x.now(4);
+        for (int first = 0; first <= size; first++) {
+            all.add((long) x.wouldScore(first));
         }
     }
 

@@ -71,11 +71,19 @@ final class Tables {
 
     static void playRightly(PepperboxTable x, int many) {
         for (int k = 0; k < many; k++) {
-            int card = 0;
-            while (card < 31 && !x.isRight(card)) {
-                card++;
-            }
-            x.play(card);
+            x.play(smallestRight(x));
         }
+    }
+
+    /** Asks for the smallest CARD of each SUIT alone: a deal of 32 CARDS has to fit into 512 calls. */
+    private static int smallestRight(PepperboxTable x) {
+        int turn = x.now(2);
+        for (int suit = 0; suit < 3; suit++) {
+            int card = x.hand(turn, suit, 2);
+            if (card >= 0 && x.isRight(card)) {
+                return card;
+            }
+        }
+        return x.hand(turn, 3, 2);
     }
 }

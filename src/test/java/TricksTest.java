@@ -84,7 +84,7 @@ public final class TricksTest {
     private static void back() {
         PepperboxTable x = Tables.playing(0, 0, 1, 2, 5);
         Due.noState("13 none lies there", x, () -> x.back());
-        long[] before = Snapshot.of(x);
+        long[] before = Snapshot.of(Tables.playing(0, 0, 1, 2, 5));
         Tables.plays(x, 1, 6, 3);
         Due.is("13 lying", 3, x.now(5));
         Due.is("13 back", 3, x.back());
@@ -318,23 +318,9 @@ public final class TricksTest {
         }
     }
 
-    /** The winner has the two best CARDS of each SUIT, so all follow, and that PLAYER gets all. */
     private static void scoreOf(int bid, int times, int winner, int declarer, int due) {
-        PepperboxTable x = new PepperboxTable();
-        x.begin(declarer);
-        for (int card = 0; card < 32; card++) {
-            x.give((winner + 1 + card % 8 / 2) % 4, card);
-        }
-        x.open();
-        x.bid(bid);
-        if (times > 1) {
-            x.bid(41);
-        }
-        if (times > 2) {
-            x.bid(42);
-        }
-        Tables.bids(x, 0, 0, 0);
-        Tables.playRightly(x, 32);
+        int[][] bids = {{bid, 0, 0, 0}, {bid, 41, 0, 0, 0}, {bid, 41, 42, 0, 0, 0}};
+        PepperboxTable x = Edges.allEight(winner, declarer, bids[times / 2]);
         int scorer = winner % 2;
         String what = "17 bid " + bid + " times " + times;
         Due.is(what + " over", 3, x.now(0));

@@ -296,49 +296,18 @@ public final class WouldBeTest {
     private static void digest() {
         PepperboxTable x = new PepperboxTable();
         Due.is("25 a new one", 2421067619878842837L, x.digest());
-        Due.is("25 a new one", byHand(x), x.digest());
+        Due.is("25 a new one", Edges.digestByHand(x), x.digest());
         x.deal(3, 5, 3);
-        Due.is("25 with CARDS", byHand(x), x.digest());
+        Due.is("25 with CARDS", Edges.digestByHand(x), x.digest());
         x.open();
         Tables.bids(x, 2, 41, 0, 0);
-        Due.is("25 with BIDS", byHand(x), x.digest());
-        x.bid(0);
-        for (int k = 0; k < 12; k++) {
-            Due.is("25 with TRICKS", byHand(x), x.digest());
-            Tables.playRightly(x, 1);
+        Due.is("25 with BIDS", Edges.digestByHand(x), x.digest());
+        for (int k = 0; k <= 12; k++) {
+            PepperboxTable t = Tables.playing(1, 3, 5, 3, 2);
+            Tables.playRightly(t, k);
+            Due.is("25 with so many CARDS played: " + k, Edges.digestByHand(t), t.digest());
         }
-        Due.is("25 over", byHand(x), x.digest());
         PepperboxTable y = Tables.revoked();
-        Due.is("25 with a REVOKE", byHand(y), y.digest());
-    }
-
-    private static long byHand(PepperboxTable x) {
-        long d = 968;
-        for (int what = 0; what <= 7; what++) {
-            d = d * 31 + x.now(what);
-        }
-        for (int what = 0; what <= 3; what++) {
-            d = d * 31 + x.contract(what);
-        }
-        for (int k = 0; k < x.now(3); k++) {
-            d = d * 31 + x.bidAt(k);
-        }
-        for (int trick = 0; trick < x.now(4); trick++) {
-            for (int what = 0; what <= 5; what++) {
-                d = d * 31 + x.trick(trick, what);
-            }
-        }
-        for (int k = 0; k < 6; k++) {
-            d = d * 31 + x.side(k / 3, k % 3);
-        }
-        for (int k = 0; k < 60; k++) {
-            d = d * 31 + x.hand(k / 15, k / 3 % 5, k % 3);
-        }
-        d = d * 31 + x.best();
-        d = d * 31 + x.bestCard();
-        for (int trump = 0; trump <= 4; trump++) {
-            d = d * 31 + x.bestIn(trump);
-        }
-        return d;
+        Due.is("25 with a REVOKE", Edges.digestByHand(y), y.digest());
     }
 }
